@@ -3,8 +3,10 @@ import java.util.List;
 
 /** Runs of up to 512 calls, made from numbers that are the same at every run, against the plain model. */
 public final class RandomRunsTest {
-    private static final int RUNS = 700;
+    private static final int RUNS = 1600;
     private static final int CALLS = 512;
+    /** The calls of sameState. */
+    private static final int LOOKS = 101;
     private static final int[] ODD = {
         Integer.MIN_VALUE, Integer.MIN_VALUE + 1, -1000, -2, -1, 9, 10, 12, 13, 19, 20, 21, 23, 24, 29, 30, 33, 34,
         39, 40, 43, 44, 49, 50, 99, 100, 127, 10000, 10004, 100000, Integer.MAX_VALUE - 1, Integer.MAX_VALUE
@@ -78,44 +80,39 @@ public final class RandomRunsTest {
         return below(4) == 0 ? 90 + below(10) : from(1, 99);
     }
 
+    /** Every second run is shorter, so that with what is looked at then it has 512 calls at most, too. */
     private void play(int run, Check check) {
         List<String> calls = new ArrayList<>();
-        int kind = run % 4;
-        int made = 0;
-        while (made < CALLS) {
-            int before = calls.size();
+        boolean looksAtState = run % 2 == 1;
+        int end = looksAtState ? 1 + below(CALLS - LOOKS) : CALLS;
+        int kind = run / 2 % 4;
+        boolean same = true;
+        while (same && calls.size() < end) {
             int texts = kind == 3 ? below(3) : below(40);
             if (texts == 0) {
-                made += typeText(calls, Math.min(CALLS - made, 60));
+                same = typeText(calls, Math.min(end - calls.size(), 60));
             } else {
                 one(kind);
                 calls.add(call + " " + got + "/" + want);
-                made++;
+                same = got == want;
             }
-            if (texts == 0 || got != want || made % 16 == 0) {
-                boolean same = got == want && sameState();
-                check.holds("run " + run + ", calls " + before + " to " + calls.size() + ": "
-                        + (same ? "" : calls), same);
-                if (!same) {
-                    return;
-                }
-            }
+        }
+        check.holds("run " + run + ": " + (same ? "" : calls), same);
+        if (same && looksAtState) {
+            check.holds("run " + run + ", the state after it: " + calls, sameState());
         }
     }
 
-    private int typeText(List<String> calls, int most) {
+    private boolean typeText(List<String> calls, int most) {
         String text = someText();
-        int made = 0;
-        for (int index = 0; index < text.length() && made < most; index++) {
+        boolean same = true;
+        for (int index = 0; same && index < Math.min(text.length(), most); index++) {
             char sign = text.charAt(index);
             answer("type(" + (int) sign + ")", program.type(sign), model.type(sign));
-            calls.add(call);
-            made++;
-            if (got != want) {
-                break;
-            }
+            calls.add(call + " " + got + "/" + want);
+            same = got == want;
         }
-        return made;
+        return same;
     }
 
     private String someText() {
@@ -277,7 +274,7 @@ public final class RandomRunsTest {
         }
     }
 
-    /** The calls that tell about the state change nothing, so they may be asked on top of the run. */
+    /** All that can be asked without a change. */
     private boolean sameState() {
         boolean same = true;
         for (int what = 0; what < 50; what++) {
